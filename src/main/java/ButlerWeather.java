@@ -14,7 +14,7 @@ public final class ButlerWeather {
     private static final int SHEETS = 4, MOST_ITEMS = 60;
 
     private static final int CALLERS_TEXT = 0, MEN_TEXT = 1;
-    private static final int FROST = 1, GALE = 2, SUNSHINE = 3, SORTS = 4;
+    private static final int RAIN = 0, FROST = 1, GALE = 2, SUNSHINE = 3, SORTS = 4;
     private static final int BUTLER = 0;
     private static final int NOT_COME = 0, ON_STEP = 1, IN = 2, OVER = 3, SENT_ON = 4;
     private static final int BYTES = 0, SHORTS = 1, INTS = 2;
@@ -177,9 +177,12 @@ public final class ButlerWeather {
     public int coldest() {
         House house = told();
         int best = 0;
+        int least = house.warmthOn(0);
         for (int day = 1; day < DAYS; day++) {
-            if (house.warmthOn(day) < house.warmthOn(best)) {
+            int warmth = house.warmthOn(day);
+            if (warmth < least) {
                 best = day;
+                least = warmth;
             }
         }
         return best;
@@ -271,7 +274,7 @@ public final class ButlerWeather {
         if (!within(i, NONE, 1)) {
             return BAD;
         }
-        int burnt = cardsToBurn();
+        int burnt = cardsToBurn(told());
         if (burnt == NONE) {
             return NONE;
         }
@@ -292,9 +295,11 @@ public final class ButlerWeather {
     }
 
     public int never() {
+        trial.become(told());
         int bits = 0;
         for (int i = 0; i < cards.size; i++) {
-            liveWithout(1 << i);
+            cards.inviteAllBut(1 << i, trial);
+            trial.live();
             if (felt.fits(trial)) {
                 bits |= 1 << i;
             }
@@ -319,9 +324,12 @@ public final class ButlerWeather {
         trial.become(house);
         int rows = odds.keepFitting(trial, felt, caller);
         int best = 0;
+        int least = odds.greatestAlike(rows, 0);
         for (int day = 1; day < DAYS; day++) {
-            if (odds.greatestAlike(rows, day) < odds.greatestAlike(rows, best)) {
+            int greatest = odds.greatestAlike(rows, day);
+            if (greatest < least) {
                 best = day;
+                least = greatest;
             }
         }
         return best;
@@ -466,7 +474,19 @@ public final class ButlerWeather {
         h = digestMen(h);
         h = digestCallers(h);
         h = digestDays(h);
-        return digestPlans(h);
+        h = 31 * h + coldest();
+        h = 31 * h + first(0);
+        h = 31 * h + first(1);
+        h = 31 * h + sent();
+        h = 31 * h + wrong();
+        h = 31 * h + sum();
+        h = 31 * h + leave(8, 0);
+        h = 31 * h + leave(8, 1);
+        h = 31 * h + burn(NONE);
+        h = 31 * h + burn(0);
+        h = 31 * h + never();
+        h = 31 * h + years(7, 6, 0);
+        return 31 * h + years(7, 6, 1);
     }
 
     private long digestMen(long before) {
@@ -512,23 +532,6 @@ public final class ButlerWeather {
             h = 31 * h + warmth(day);
         }
         return h;
-    }
-
-    private long digestPlans(long before) {
-        long h = before;
-        h = 31 * h + coldest();
-        h = 31 * h + first(0);
-        h = 31 * h + first(1);
-        h = 31 * h + sent();
-        h = 31 * h + wrong();
-        h = 31 * h + sum();
-        h = 31 * h + leave(8, 0);
-        h = 31 * h + leave(8, 1);
-        h = 31 * h + burn(NONE);
-        h = 31 * h + burn(0);
-        h = 31 * h + never();
-        h = 31 * h + years(7, 6, 0);
-        return 31 * h + years(7, 6, 1);
     }
 
     // ---- what the calls share
@@ -586,8 +589,10 @@ public final class ButlerWeather {
     /** The house of the texts and cards as they stand; worked out once for each change of them. */
     private House told() {
         if (!settled) {
-            home.takeCallers(texts[CALLERS_TEXT]);
-            home.takeMen(texts[MEN_TEXT]);
+            Text callers = texts[CALLERS_TEXT];
+            Text men = texts[MEN_TEXT];
+            home.takeCallers(callers, callers.itemCount());
+            home.takeMen(men, men.itemCount());
             cards.inviteAllBut(0, home);
             home.live();
             odds.counted = false;
@@ -596,19 +601,15 @@ public final class ButlerWeather {
         return home;
     }
 
-    private void liveWithout(int burnt) {
-        trial.become(told());
+    private boolean noFrostWithout(int burnt) {
         cards.inviteAllBut(burnt, trial);
         trial.live();
-    }
-
-    private boolean noFrostWithout(int burnt) {
-        liveWithout(burnt);
         return !trial.hasNamed(FROST);
     }
 
     /** The cards that had better be burnt, as bits; NONE, where two are too few. */
-    private int cardsToBurn() {
+    private int cardsToBurn(House house) {
+        trial.become(house);
         if (noFrostWithout(0)) {
             return 0;
         }
@@ -735,20 +736,11 @@ public final class ButlerWeather {
 
         private static int meaning(int sign, int b) {
             switch (sign) {
-                case SORT_SIGN: return sortOf(b);
+                case SORT_SIGN:
+                    return b == 'r' ? RAIN : b == 'f' ? FROST : b == 'g' ? GALE : b == 's' ? SUNSHINE : NONE;
                 case RANK_SIGN: return b == 'b' ? 0 : b == 'j' ? 1 : NONE;
-                case FIGURE: return within(b, '1', '9') ? b - '0' : NONE;
-                case DAY_SIGN: return within(b, 'a', 'x') ? b - 'a' : NONE;
-                default: return NONE;
-            }
-        }
-
-        private static int sortOf(int b) {
-            switch (b) {
-                case 'r': return 0;
-                case 'f': return FROST;
-                case 'g': return GALE;
-                case 's': return SUNSHINE;
+                case FIGURE: return b >= '1' && b <= '9' ? b - '0' : NONE;
+                case DAY_SIGN: return b >= 'a' && b <= 'x' ? b - 'a' : NONE;
                 default: return NONE;
             }
         }
@@ -848,8 +840,8 @@ public final class ButlerWeather {
             return within(m, 0, men - 1);
         }
 
-        void takeCallers(Text text) {
-            callers = Math.min(text.itemCount(), MOST_CALLERS);
+        void takeCallers(Text text, int items) {
+            callers = Math.min(items, MOST_CALLERS);
             for (int c = 0; c < callers; c++) {
                 sort[c] = text.value(c, 0);
                 waits[c] = text.value(c, 1);
@@ -858,8 +850,8 @@ public final class ButlerWeather {
             }
         }
 
-        void takeMen(Text text) {
-            men = Math.min(text.itemCount(), MOST_MEN);
+        void takeMen(Text text, int items) {
+            men = Math.min(items, MOST_MEN);
             for (int m = 0; m < men; m++) {
                 rank[m] = text.value(m, 0);
                 from[m] = text.value(m, 1);
@@ -917,7 +909,7 @@ public final class ButlerWeather {
                 cameIn[c] = NONE;
                 sentOn[c] = NONE;
                 named[c] = NONE;
-                if (isDay(calls[c])) {
+                if (calls[c] >= 0 && calls[c] < DAYS) {
                     coming[calls[c]] |= 1 << c;
                 }
             }
@@ -990,7 +982,7 @@ public final class ButlerWeather {
 
         int manAt(int day) {
             for (int m = 0; m < men; m++) {
-                if (within(day, from[m], until[m])) {
+                if (from[m] <= day && day <= until[m]) {
                     return m;
                 }
             }
@@ -998,7 +990,7 @@ public final class ButlerWeather {
         }
 
         boolean isIn(int c, int day) {
-            return cameIn[c] != NONE && within(day, cameIn[c], cameIn[c] + force[c] - 1);
+            return cameIn[c] != NONE && cameIn[c] <= day && day < cameIn[c] + force[c];
         }
 
         int standing(int c, int day) {
@@ -1022,7 +1014,7 @@ public final class ButlerWeather {
         }
 
         private int warmer(int c) {
-            return within(named[c], 0, SORTS - 1) ? WARMER[named[c]] : 0;
+            return named[c] >= 0 && named[c] < WARMER.length ? WARMER[named[c]] : 0;
         }
 
         int hatsOn(int day) {
@@ -1056,19 +1048,17 @@ public final class ButlerWeather {
         }
 
         int everIn() {
-            int bits = 0;
-            for (int c = 0; c < callers; c++) {
-                if (cameIn[c] != NONE) {
-                    bits |= 1 << c;
-                }
-            }
-            return bits;
+            return thoseWithADay(cameIn);
         }
 
         int sentBits() {
+            return thoseWithADay(sentOn);
+        }
+
+        private int thoseWithADay(int[] days) {
             int bits = 0;
-            for (int c = 0; c < callers; c++) {
-                if (sentOn[c] != NONE) {
+            for (int c = 0; c < callers && c < days.length; c++) {
+                if (days[c] != NONE) {
                     bits |= 1 << c;
                 }
             }
@@ -1171,7 +1161,8 @@ public final class ButlerWeather {
             int greatest = 0;
             for (int i = 0; i < rows; i++) {
                 int alike = 0;
-                for (int j = 0; j < rows; j++) {
+                // The first of those that are alike meets all of them from itself on.
+                for (int j = i; j < rows; j++) {
                     if (warmth[i][day] == warmth[j][day]) {
                         alike++;
                     }

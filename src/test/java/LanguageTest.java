@@ -7,7 +7,9 @@ import java.nio.file.Path;
 import java.util.ArrayList;
 import java.util.Arrays;
 import java.util.List;
+import java.util.Map;
 import java.util.Set;
+import java.util.TreeMap;
 import java.util.TreeSet;
 import java.util.regex.Matcher;
 import java.util.regex.Pattern;
@@ -121,9 +123,10 @@ public final class LanguageTest {
 
     /** A method starts with a line that ends in ") {" at the indent of a member, and ends with "}" there. */
     private static void shortMethods(String[] lines) {
+        Map<String, String> bodies = new TreeMap<>();
         for (int i = 0; i < lines.length; i++) {
-            Matcher start = Pattern.compile("^( {4}| {8})\\w.*\\) \\{$").matcher(lines[i]);
-            if (!start.matches() || lines[i].trim().matches("(if|for|while|switch).*")) {
+            Matcher start = Pattern.compile("^( {4}| {8})\\w[^=]*?(\\w+)\\([^()]*\\) \\{$").matcher(lines[i]);
+            if (!start.matches() || lines[i].trim().matches("(if|for|while|switch)\\b.*")) {
                 continue;
             }
             int end = i;
@@ -131,6 +134,27 @@ public final class LanguageTest {
                 end++;
             }
             must(end - i <= 60, "a short method: " + lines[i].trim());
+            bodies.merge(start.group(2), String.join("\n", Arrays.copyOfRange(lines, i + 1, end)), String::concat);
         }
+        must(bodies.keySet().containsAll(Set.of("digest", "live", "within", "hindrance")), "methods are seen");
+        for (String name : bodies.keySet()) {
+            int deep = depth(name, bodies, 0);
+            must(deep <= 8, deep + " calls deep: " + name);
+        }
+    }
+
+    /** How many calls stand open at once, methods of one name taken together. */
+    private static int depth(String name, Map<String, String> bodies, int above) {
+        if (above > 20) {
+            return above;
+        }
+        int deepest = 0;
+        Matcher called = Pattern.compile("\\b(\\w+)\\(").matcher(bodies.get(name));
+        while (called.find()) {
+            if (bodies.containsKey(called.group(1))) {
+                deepest = Math.max(deepest, depth(called.group(1), bodies, above + 1));
+            }
+        }
+        return deepest + 1;
     }
 }

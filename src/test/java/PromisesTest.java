@@ -1,3 +1,6 @@
+import java.util.ArrayList;
+import java.util.List;
+
 /** Each promise by itself: ordinary inputs, the edges, and wrong inputs with the refusal due first. */
 public final class PromisesTest {
     private static final int NONE = -1, BAD = -2, NOT = -3, FULL = -4;
@@ -122,6 +125,13 @@ public final class PromisesTest {
         due("count", x.count(2), 0);
         typeAll(x, 0, "g1a1");
         due("typed anew", x.caller(0, 0), 2);
+        due("one", x.count(0), 1);
+        x.wipe(0);
+        due("wiped behind an answer", x.count(0), 0);
+        typeAll(x, 0, "g1a1");
+        due("typed behind an answer", x.count(0), 1);
+        x.undo(0);
+        due("undone behind an answer", x.count(0), 0);
     }
 
     private static void faultOf(int text, String signs, int want) {
@@ -216,6 +226,8 @@ public final class PromisesTest {
         due("in by card", x.stands(0, 0), 2);
         x.back();
         due("not in without", x.stands(0, 0), 1);
+        x.card(0, 0);
+        due("in by a card behind an answer", x.stands(0, 0), 2);
     }
 
     private static void reading() {
@@ -527,6 +539,16 @@ public final class PromisesTest {
         x.feel(3, 0);
         due("none left", x.ask(0), 0);
         x.forget();
+        due("day 1 tells most", house("r1a9", "bbx", 0, 0).ask(0), 1);
+        // The rains are let in on days 0 and 1, the frost on day 3, if each waits so long.
+        x = house("r9a1;r9a1;f9b4", "bab;bdx", 0, 0, 0, 1, 0, 2);
+        due("in any case", x.ask(0), 0);
+        due("by 1 alone not on day 1", x.ask(1), 1);
+        due("by 1 to 2 not on day 3", x.ask(2), 3);
+        x.feel(3, -3);
+        due("what was felt is out", x.ask(2), 0);
+        due("by 9 alone it is in", house("r1a9", "bix", 0, 0).ask(0), 8);
+        due("by 1 alone it is not", house("r1a9", "bbb", 0, 0).ask(0), 1);
         // Two days at the door: by a patience of 1 to 3 it is never in; on day 1 no man is there.
         x = house("r9a9;r1a9", "bcc;bgx", 0, 0, 0, 1);
         due("one at the door first", x.ask(1), 6);
@@ -575,6 +597,7 @@ public final class PromisesTest {
         due("by a card of day 0", x.years(0, 1, 0), 1);
         due("by a card of day 0", x.years(0, 1, 1), -9);
         due("cards are as they were", x.count(4), 1);
+        twoCallersByLots();
         int next = 1103515245 * -5 + 12345;
         int day = (next >>> 16) % 24;
         due("a seed below 0", x.years(-5, 1, 0), day <= 8 ? 1 : 0);
@@ -585,6 +608,27 @@ public final class PromisesTest {
         due("years bad", x.years(0, 9, 0), LEAST);
         due("years bad", x.years(0, 0, 2), LEAST);
         due("years bad", x.years(0, 0, -1), LEAST);
+    }
+
+    /** Each card by two lots, worked out in longs: its day, then one of two callers. */
+    private static void twoCallersByLots() {
+        ButlerWeather x = house("f9a1;r9a9", "bax");
+        long seed = 77;
+        int[] first = {99, 99};
+        for (int n = 1; n <= 8; n++) {
+            seed = (seed * 1103515245L + 12345L) % 4294967296L;
+            int day = (int) (seed / 65536 % 24);
+            seed = (seed * 1103515245L + 12345L) % 4294967296L;
+            int who = (int) (seed / 65536 % 2);
+            first[who] = Math.min(first[who], day);
+            boolean both = first[0] <= 8 && first[1] <= 8;
+            // Let in on one day and at the end of their patience, one of them is sent on.
+            boolean clash = first[0] == 8 && first[1] == 8;
+            int in = clash ? 1 : both ? 2 : first[0] <= 8 || first[1] <= 8 ? 1 : 0;
+            int sum = (first[0] <= 8 ? -3 : 0) + (first[1] <= 8 && !clash ? -9 : 0);
+            due("years of " + n, x.years(77, n, 0), in);
+            due("years of " + n, x.years(77, n, 1), sum);
+        }
     }
 
     private static void sheets() {
@@ -612,6 +656,9 @@ public final class PromisesTest {
         x.put(0, 2, 2, 7);
         x.sheet(0, 2, 3);
         due("new again", x.get(0, 2, 2), 0);
+        x.put(0, 2, 0, 7);
+        x.sheet(0, 2, 3);
+        due("new again", x.get(0, 2, 0), 0);
         x.put(0, 2, 2, 7);
         x.lose(0);
         x.sheet(0, 2, 3);
@@ -712,6 +759,10 @@ public final class PromisesTest {
         x.sheet(1, 2, 2);
         due("write few", x.write(1), 2);
         due("written", x.get(1, 2, 1), -4);
+        x = house("g1a2", "");
+        x.sheet(1, 2, 2);
+        x.write(1);
+        due("written from day 0 on", x.get(1, 2, 0), -2);
         x.sheet(1, 2, 0);
         due("write none", x.write(1), 0);
     }
@@ -753,6 +804,46 @@ public final class PromisesTest {
         x.card(3, 3);
         if (x.digest() == h) {
             due("a card changes it", 0, 1);
+        }
+        x = house("r5c4;f7a3;s3b9;g2d1", "jcd;bab;bfk", 2, 0, 0, 1, 3, 2, 2, 1);
+        x.feel(0, -3);
+        due("digest of many", x.digest(), folded(x));
+        x.forget();
+        x.back();
+        due("digest of many", x.digest(), folded(x));
+    }
+
+    /** The digest as the document tells it, of what the calls answer. */
+    private static long folded(ButlerWeather x) {
+        List<Long> all = new ArrayList<>();
+        for (int what = 0; what < 8; what++) {
+            all.add((long) x.count(what));
+        }
+        add(all, x.fault(0), x.fault(1));
+        for (int m = 0; m < x.count(1); m++) {
+            add(all, x.man(m, 0), x.man(m, 1), x.man(m, 2), x.begin(m, 0), x.begin(m, 1));
+        }
+        for (int c = 0; c < x.count(0); c++) {
+            add(all, x.caller(c, 0), x.caller(c, 1), x.caller(c, 2), x.caller(c, 3));
+            add(all, x.stands(6, c), x.stands(14, c), x.stands(23, c), x.name(c), x.patience(c));
+            add(all, x.was(c, 0), x.was(c, 1), x.ask(c), x.chance(5, c, 0), x.chance(5, c, 1));
+        }
+        for (int day = 0; day < 24; day++) {
+            add(all, x.door(day, 0), x.door(day, 1), x.door(day, 2), x.warmth(day));
+        }
+        add(all, x.coldest(), x.first(0), x.first(1), x.sent(), x.wrong(), x.sum());
+        add(all, x.leave(8, 0), x.leave(8, 1), x.burn(-1), x.burn(0), x.never());
+        add(all, x.years(7, 6, 0), x.years(7, 6, 1));
+        long h = 17;
+        for (long v : all) {
+            h = 31 * h + v;
+        }
+        return h;
+    }
+
+    private static void add(List<Long> all, long... values) {
+        for (long v : values) {
+            all.add(v);
         }
     }
 }
