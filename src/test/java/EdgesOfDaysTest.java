@@ -363,12 +363,14 @@ public final class EdgesOfDaysTest {
     }
 
     private static void name() {
-        Edge.sentence("NAME; NONE. BAD.");
+        Edge.sentence("Its NAME: as which sort it was let IN (0 r, 1 f, 2 g, 3 s; a gale as 2); NONE: it never is.");
         Edge.due("on the step to the end", Edge.house("r9x9", "").name(0), Edge.NONE);
         Edge.due("sent on", Edge.house("r1a9", "").name(0), Edge.NONE);
         Edge.due("let in on the last day", Edge.house("r9x9", "bax", 23, 0).name(0), 0);
         Edge.due("over long ago", Edge.house("f1a1", "baa", 0, 0).name(0), 1);
         Edge.due("the eighth", Edge.full().name(7), 2);
+        Edge.due("a gale of the last day", Edge.house("g1x1", "jax").name(0), 2);
+        Edge.sentence("NAME; NONE. BAD.");
         for (int c : Edge.outside(0, 7)) {
             Edge.refusedInAll("name(" + c + ")", x -> x.name(c), Edge.BAD);
         }
@@ -413,6 +415,9 @@ public final class EdgesOfDaysTest {
         Edge.due("nothing, so the least of all", new ButlerWeather().coldest(), 0);
         Edge.due("the last day alone", Edge.house("g1x9", "").coldest(), 23);
         Edge.due("the first day alone", Edge.house("g1a1", "").coldest(), 0);
+        for (int day = 0; day < 24; day++) {
+            Edge.due("day " + day + " alone", Edge.house("g1" + (char) ('a' + day) + "1", "").coldest(), day);
+        }
         Edge.due("two like ones", Edge.house("g1m1;g1f1", "").coldest(), 5);
         Edge.due("two and one", Edge.house("g1b1;g1m1;g1m1", "").coldest(), 12);
         Edge.due("a frost and a gale", Edge.house("g1b1;f9m1", "bax", 12, 1).coldest(), 12);

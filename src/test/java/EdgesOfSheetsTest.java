@@ -1,6 +1,7 @@
 import java.math.BigInteger;
 import java.util.ArrayList;
 import java.util.List;
+import java.util.function.ToLongFunction;
 
 /** Promises 31 to 38, the terms of sheets, findings and refusals: each sentence that names an edge, by itself. */
 public final class EdgesOfSheetsTest {
@@ -20,13 +21,16 @@ public final class EdgesOfSheetsTest {
         writeRefused();
         findings();
         refusalsInOrder();
+        refusalsOfLeastInt();
         refusalsChangeNothing();
         counts();
         countEverInAndSent();
         countLatestFinding();
         countRefused();
         digestOfAll();
+        digestOfDays();
         digestThatWraps();
+        askedBetween();
         Edge.end();
     }
 
@@ -380,6 +384,21 @@ public final class EdgesOfSheetsTest {
         Edge.due("burn: BAD, NONE", Edge.house("f9a9", "bax", 0, 0, 0, 0, 0, 0).burn(2), Edge.BAD);
     }
 
+    private static void refusalsOfLeastInt() {
+        Edge.sentence("Where it is told at an act, BAD is the least int");
+        for (ButlerWeather x : new ButlerWeather[] {new ButlerWeather(), Edge.some(), Edge.faulty(), Edge.full()}) {
+            Edge.due("warmth", x.warmth(24), Edge.LEAST);
+            Edge.due("leave", x.leave(24, 0), Edge.LEAST);
+            Edge.due("years", x.years(0, 9, 0), Edge.LEAST);
+            Edge.due("get", x.get(4, 0, 0), Edge.LEAST);
+            Edge.due("stands, where it is not told", x.stands(24, 0), Edge.BAD);
+            Edge.due("door, where it is not told", x.door(24, 0), Edge.BAD);
+            Edge.due("begin, where it is not told", x.begin(4, 0), Edge.BAD);
+            Edge.due("burn, where it is not told", x.burn(2), Edge.BAD);
+            Edge.due("put, where it is not told", x.put(4, 0, 0, 0), Edge.BAD);
+        }
+    }
+
     private static void refusalsChangeNothing() {
         Edge.sentence("They change nothing (FINDINGS but count() 8).");
         // All refusals one behind the other, on one object: the last finding is all that is new.
@@ -505,6 +524,27 @@ public final class EdgesOfSheetsTest {
         Edge.changesNothing("digest", ButlerWeather::digest);
     }
 
+    private static void digestOfDays() {
+        Edge.sentence("of CALLERS caller() 0 to 3, stands(6, it), stands(14, it), stands(23, it), name(), patience(),"
+                + " was() 0, 1, ask(), chance(5, it), above, below; of DAYS 0 to 23 door() 0 to 2, warmth()");
+        for (int day = 0; day < 24; day++) {
+            char sign = (char) ('a' + day);
+            ButlerWeather x = Edge.house("g1" + sign + "1;f2" + sign + "1;s1a1", "b" + sign + "x;jac", day, 1, 0, 2);
+            Edge.due("on day " + day, x.digest(), folded(x));
+            x.feel(day, -2);
+            Edge.due("felt on day " + day, x.digest(), folded(x));
+        }
+        Edge.sentence("of MEN man() 0 to 2, begin() 0, 1");
+        ButlerWeather x = Edge.house("s1d1;r1e1", "bax;jae;bbb;jaa", 0, 0, 0, 1);
+        Edge.due("he had better be late", x.begin(0, 0), 4);
+        Edge.due("four men", x.digest(), folded(x));
+        Edge.sentence("leave(8, 0 and 1), burn(NONE), burn(0), never(), years(7, 6, 0 and 1)");
+        x = Edge.house("f9i1;r9i1;s9a1", "bdx", 8, 1, 8, 0, 3, 7);
+        Edge.due("leave", x.leave(8, 1), -4);
+        Edge.due("burn", x.burn(0), 1);
+        Edge.due("all of these", x.digest(), folded(x));
+    }
+
     private static void digestThatWraps() {
         Edge.sentence("as longs that wrap");
         BigInteger h = BigInteger.valueOf(17);
@@ -514,6 +554,62 @@ public final class EdgesOfSheetsTest {
         }
         Edge.due("the lowest 64 bits", x.digest(), h.longValue());
         Edge.due("it is more than they hold", h.bitLength() > 64 ? 1 : 0, 1);
+    }
+
+    // ---- not promised
+
+    /** What was asked ahead of a change is not what is answered behind it. */
+    private static void askedBetween() {
+        Edge.sentence("How the state is held inside the object is free");
+        ButlerWeather quiet = new ButlerWeather();
+        ButlerWeather asked = new ButlerWeather();
+        List<ToLongFunction<ButlerWeather>> changes = changes();
+        for (int i = 0; i < changes.size(); i++) {
+            Edge.due("change " + i, changes.get(i).applyAsLong(asked), changes.get(i).applyAsLong(quiet));
+            ButlerWeather again = new ButlerWeather();
+            for (int k = 0; k <= i; k++) {
+                changes.get(k).applyAsLong(again);
+            }
+            Edge.due("behind change " + i, asked.digest(), again.digest());
+            Edge.due("behind change " + i, asked.digest(), folded(again));
+        }
+        Edge.due("at the end", asked.digest(), quiet.digest());
+    }
+
+    private static List<ToLongFunction<ButlerWeather>> changes() {
+        List<ToLongFunction<ButlerWeather>> all = new ArrayList<>();
+        typing(all, 0, "r9x3;f3b9;s9a2;g1a4");
+        typing(all, 1, "jac;bbx");
+        for (int i = 0; i < 8; i++) {
+            int n = i;
+            all.add(x -> x.card(n % 4, 7 - n));
+        }
+        all.add(ButlerWeather::back);
+        all.add(x -> x.feel(0, -5));
+        all.add(x -> x.sheet(0, 0, 2));
+        all.add(x -> x.read(0));
+        all.add(x -> x.undo(1));
+        all.add(x -> x.type(1, 'c'));
+        all.add(ButlerWeather::forget);
+        // Some call later now, some earlier, and there are more of them.
+        all.add(x -> x.wipe(0));
+        typing(all, 0, "r9a2;f9x1;s9c2;f9a1;s9a1;g9a1;r9a1;f9c1");
+        all.add(ButlerWeather::back);
+        all.add(x -> x.card(0, 7));
+        all.add(x -> x.undo(0));
+        all.add(x -> x.wipe(1));
+        all.add(x -> x.type(0, '9'));
+        typing(all, 1, "baa;jbx");
+        for (int i = 0; i < 9; i++) {
+            all.add(ButlerWeather::back);
+        }
+        return all;
+    }
+
+    private static void typing(List<ToLongFunction<ButlerWeather>> all, int text, String signs) {
+        for (int b : signs.toCharArray()) {
+            all.add(x -> x.type(text, b));
+        }
     }
 
     private static long folded(ButlerWeather x) {
