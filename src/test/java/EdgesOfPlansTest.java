@@ -97,6 +97,8 @@ public final class EdgesOfPlansTest {
         // A butler ahead of a junior would send the sunshine on.
         begins("on the day behind the sunshine's", Edge.house("s1a1;r1b1", "bax;jax", 0, 0, 0, 1), 0, 1, 2);
         begins("on the last day", Edge.house("s1w1;r1x1", "bax;jaw", 0, 0, 0, 1), 0, 23, 2);
+        // The last day is the butler's, whenever he begins: there is no day behind it to begin on.
+        begins("not behind the last day", Edge.house("s1x1", "bax;jax", 0, 0), 0, 0, 0);
         begins("on the first day", Edge.house("r1a1", "bxx", 0, 0), 0, 0, 1);
         begins("the last of four", Edge.house("s1c1;r1d1", "bxa;bxa;bxa;jaa", 0, 0, 0, 1), 3, 0, 0);
         begins("the last of four", Edge.house("s1c1;r1d1", "bxa;bxa;bxa;jxd", 0, 0, 0, 1), 3, 0, 2);
